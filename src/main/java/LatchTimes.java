@@ -6,7 +6,8 @@ public final class LatchTimes {
     public static final int NONE = -1;
 
     private static final int LACKING = -2;
-    private static final long NO = Long.MIN_VALUE;
+    private static final long NO = 1L << 63;
+    private static final int UNTOLD = 1 << 31;
     private static final int NO_MOVE = -2000;
     private static final int NO_MOVING_CELL = -3000;
 
@@ -593,12 +594,12 @@ public final class LatchTimes {
 
         /** COMES of each cell by LEAVES of each. */
         void gather(int[] leaves, int[] weight, int[] comes) {
-            Arrays.fill(comes, Integer.MIN_VALUE);
+            Arrays.fill(comes, UNTOLD);
             for (int p = 0; p < paths; p++) {
                 comes[to[p]] = Math.max(comes[to[p]], leaves[from[p]] + weight[p]);
             }
             for (int c = 0; c < cells; c++) {
-                if (comes[c] == Integer.MIN_VALUE) {
+                if (comes[c] == UNTOLD) {
                     comes[c] = isFlop(c) ? -UNIT * setup[c] : 0;
                 }
             }
@@ -1393,7 +1394,7 @@ public final class LatchTimes {
         private void cutAt(int last) {
             int path = last;
             forgetCut();
-            while (path != NONE && cutLength <= net.cells) {
+            for (int i = 0; i <= net.cells && path != NONE; i++) {
                 path = addToCut(path);
             }
             if (path == NONE) {
@@ -1406,9 +1407,12 @@ public final class LatchTimes {
         private void cutLoop(int last) {
             int path = last;
             forgetCut();
-            do {
+            for (int i = 0; i < net.cells && path != NONE; i++) {
                 path = addToCut(path);
-            } while (path != last && path != NONE && cutLength <= net.cells);
+                if (path == last) {
+                    break;
+                }
+            }
         }
 
         /** The path that leads to where this one is from. */
@@ -1479,6 +1483,7 @@ public final class LatchTimes {
     private static final class Search {
         private static final int FACTOR = 1103515245;
         private static final int ADDEND = 12345;
+        private static final int LOW_BITS = 0x7fffffff;
 
         private final Net net;
         private final Times times;
@@ -1638,7 +1643,7 @@ public final class LatchTimes {
         private int drawDelays(int seed) {
             int number = seed;
             for (int p = 0; p < net.paths; p++) {
-                number = number * FACTOR + ADDEND & Integer.MAX_VALUE;
+                number = number * FACTOR + ADDEND & LOW_BITS;
                 int choices = Math.max(keptMost[p] - net.least[p] + 1, 1);
                 net.most[p] = net.least[p] + (number >> 16) % choices;
             }

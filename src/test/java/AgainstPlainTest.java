@@ -13,10 +13,18 @@ public final class AgainstPlainTest {
     private final Plain y = new Plain();
     private final List<String> told = new ArrayList<>();
     private final boolean slow;
+    private boolean hard = false;
 
     private AgainstPlainTest(long seed, boolean slow) {
-        this.random = new Random(seed);
+        // seeds that lie side by side would begin alike
+        this.random = new Random(seed * 0x9E3779B97F4A7C15L >>> 7);
         this.slow = slow;
+    }
+
+    /** Long delays by short shifts, so that the least period is near 9999, or there is none. */
+    private AgainstPlainTest hard() {
+        hard = true;
+        return this;
     }
 
     private void due(String call, long got, long want) {
@@ -54,14 +62,15 @@ public final class AgainstPlainTest {
     /** A text that holds, of at most 700 bytes; now and then with equal openings, loops to itself, flops. */
     private List<String> tokensOfText() {
         List<String> t = new ArrayList<>();
-        int scale = random.nextInt(4) == 0 ? 999 : any(2, 40);
-        int phases = any(1, 4);
+        int scale = hard || random.nextInt(4) == 0 ? 999 : any(2, 40);
+        int phases = random.nextInt(8) == 0 ? 1 : any(2, 4);
         int cells = any(1, slow ? 6 : 10);
         int flopShare = any(0, 4);
         int detail = random.nextInt(3) == 0 ? 0 : any(1, 9);
         add(t, "period " + any(1, 3 * scale) + " ;");
         for (int i = 0; i < phases; i++) {
-            add(t, "phase " + (char) ('p' + i) + " " + any(0, 3) * any(0, 21) + " " + any(1, 63) + " ;");
+            int opens = hard ? any(0, 12) : any(0, 3) * any(0, 21);
+            add(t, "phase " + (char) ('p' + i) + " " + opens + " " + any(1, hard ? 12 : 63) + " ;");
         }
         for (int i = 0; i < cells; i++) {
             String kind = any(0, 9) < flopShare ? "flop " : "latch ";
@@ -241,19 +250,22 @@ public final class AgainstPlainTest {
     }
 
     private void askSearches() {
-        int p = any(-1, y.now.paths.size());
-        due("slower" + p, x.slower(p), y.slower(p));
-        due("gain" + p, x.gain(p), y.gain(p));
+        for (int p = -1; p <= y.now.paths.size(); p += any(1, hard ? 12 : 4)) {
+            due("slower" + p, x.slower(p), y.slower(p));
+            due("gain" + p, x.gain(p), y.gain(p));
+        }
         int seed = random.nextInt(3) == 0 ? -1 : any(-2, Integer.MAX_VALUE - 3);
         int n = any(0, slow ? 41 : 6);
         for (int what = -1; what <= 3; what++) {
             due("chance" + seed + "," + n + "," + what, x.chance(seed, n, what), y.chance(seed, n, what));
         }
         if (slow) {
-            int c = any(-1, y.now.cells.size());
-            due("bestMove" + c, x.bestMove(c), y.bestMove(c));
-            int q = any(-1, y.now.phases.size());
-            due("bestOpens" + q, x.bestOpens(q), y.bestOpens(q));
+            for (int c = -1; c <= y.now.cells.size(); c++) {
+                due("bestMove" + c, x.bestMove(c), y.bestMove(c));
+            }
+            for (int q = -1; q <= y.now.phases.size(); q++) {
+                due("bestOpens" + q, x.bestOpens(q), y.bestOpens(q));
+            }
         }
     }
 
@@ -334,8 +346,9 @@ public final class AgainstPlainTest {
 
     private void two() {
         giveText(joined(tokensOfText()));
-        int one = any(0, y.now.phases.size());
-        int other = any(0, y.now.phases.size() - 1);
+        int phases = y.now.phases.size();
+        int one = any(0, phases - 1);
+        int other = phases == 1 ? 0 : (one + any(1, phases - 1)) % phases;
         due("bestTwo " + one + "," + other, x.bestTwo(one, other), y.bestTwo(one, other));
         due("good", x.good(), y.good());
     }
@@ -350,10 +363,13 @@ public final class AgainstPlainTest {
         for (int i = from; i < from + 60 * times; i++) {
             new AgainstPlainTest(2000000 + i, false).run(2);
         }
-        for (int i = from; i < from + 25 * times; i++) {
+        for (int i = from; i < from + 8 * times; i++) {
+            new AgainstPlainTest(5000000 + i, false).hard().run(1);
+        }
+        for (int i = from; i < from + 8 * times; i++) {
             new AgainstPlainTest(3000000 + i, true).run(2);
         }
-        for (int i = from; i < from + 12 * times; i++) {
+        for (int i = from; i < from + 16 * times; i++) {
             new AgainstPlainTest(4000000 + i, true).two();
         }
         System.out.println(wrong == 0 ? asked + " answers are as due" : wrong + " answers are not as due");
