@@ -712,6 +712,124 @@ public final class PromisesTest {
         due(46, "count(-1)", x.count(-1), -1);
     }
 
+    /** What was answered ahead of a change must not be answered behind it. */
+    private static void answersAnew() {
+        LatchTimes x = given(RING);
+        x.keep();
+        x.period(30);
+        due(15, "leaves(2) at 30", x.leaves(2), 0);
+        due(27, "ratio at 30", x.ratio(false), 20);
+        x.delay(1, 19, 0);
+        due(27, "ratio by a longer delay", x.ratio(false), 30);
+        due(15, "leaves(2) by it", x.leaves(2), 384);
+        x.undo();
+        due(43, "leaves(2) behind undo()", x.leaves(2), 0);
+        due(43, "ratio behind undo()", x.ratio(false), 20);
+        x.delay(1, 19, 0);
+        due(15, "good()", x.good(), 2);
+        due(27, "ratio", x.ratio(false), 30);
+        x.back();
+        due(45, "leaves(2) behind back()", x.leaves(2), 320);
+        due(45, "ratio behind back()", x.ratio(false), 20);
+        x.flop(1);
+        due(27, "ratio without a LOOP", x.ratio(false), 0);
+        due(27, "ratio without a LOOP", x.ratio(true), 1);
+        due(28, "loop(0) without a LOOP", x.loop(0), -2);
+        due(34, "breaks() without a LOOP", x.breaks(), 0);
+        due(42, "chance by the seed of the TEXT", x.chance(-1, 1, 2), x.chance(42, 1, 2));
+        x.flop(1);
+        due(27, "ratio", x.ratio(false), 20);
+        x.flop(2);
+        due(27, "ratio with b as a flop", x.ratio(false), 0);
+        x.flop(2);
+        due(21, "good()", x.good(), 2);
+        String again = "phase p 0 9;latch a p 0 0 0;path a a 999 0;";
+        feed(x, again);
+        x.text(again.length());
+        due(3, "ratio behind text()", x.ratio(false), 999);
+        due(3, "good() behind text()", x.good(), 0);
+        due(3, "the seed behind text()", x.chance(-1, 2, 2), x.chance(0, 2, 2));
+        // 12345 by 65536 is 0; then 1406932606 by 65536 is 21468, modulo 1000 it is 468
+        due(42, "the seed behind text()", x.chance(-1, 2, 2), 468);
+        due(42, "good() behind chance()", x.good(), 0);
+        LatchTimes y = given(HOPELESS);
+        due(29, "no LEAST PERIOD", y.leastPeriod(), -2);
+        y.delay(0, 0, 0);
+        due(31, "bestOpens with nothing in the way", y.bestOpens(2), 0);
+        y.undo();
+        due(31, "and with it", y.bestOpens(2), -2);
+    }
+
+    /** TIMES one 64th above or below what is asked, the last wave, slow loops, the first period. */
+    private static void brims() {
+        LatchTimes x = given("period 65;phase p 0 1;phase q 63 63;flop a p 0 0 0;latch b q 0 0 0;path a b 64 0;");
+        due(15, "LEAVES of a 64th", x.leaves(1), 1);
+        due(20, "BORROWS by a 64th", x.which(0), 2);
+        due(37, "can't be a flop by a 64th", x.flops(), 0);
+        LatchTimes slow = given("period 1160;phase p 0 11;latch a p 0 0 99;path a a 999 0;skew 63;");
+        due(26, "fails at the last wave", slow.fails(0), 200);
+        slow.phase(0, 0, 12);
+        due(26, "fails at none", slow.fails(0), -2);
+        due(21, "but is FOREVER", slow.good(), 0);
+        LatchTimes loop = given("period 1000;phase p 0 63;latch a p 0 0 2;path a a 5 0;");
+        due(30, "slower by a slow loop", loop.slower(0), 998);
+        loop.delay(0, 999, 0);
+        due(29, "LEAST PERIOD by a slow loop", loop.leastPeriod(), 1001);
+        due(35, "bestMove by a slow loop", loop.bestMove(0), 0);
+        due(36, "leastWidth by a slow loop", loop.leastWidth(0), -2);
+        LatchTimes one = given("phase p 0 1;phase q 32 1;flop a p 0 0 0;flop b q 0 0 0;path a b 1 0;");
+        due(31, "bestOpens to a PERIOD of 1", one.bestOpens(0), 32);
+        due(29, "LEAST PERIOD", one.leastPeriod(), 2);
+        LatchTimes row = given("phase c 0 1;flop f c 0 0 0;flop g c 0 0 0;flop h c 0 0 0;path f g 2 2;path g h 0 0;");
+        due(35, "bestMove to a PERIOD of 1", row.bestMove(1), -1);
+    }
+
+    /** As many PHASES, CELLS and paths as there can be. */
+    private static void full() {
+        StringBuilder t = new StringBuilder("phase p 0 9;phase q 9 9;phase r 18 9;phase s 27 9;period 400;");
+        for (int i = 0; i < 10; i++) {
+            t.append("latch ").append((char) ('a' + i)).append(' ').append("pqrs".charAt(i % 4)).append(" 1 1 1;");
+        }
+        for (int i = 0; i < 9; i++) {
+            t.append("path ").append((char) ('a' + i)).append(' ').append((char) ('b' + i)).append(" 9 9;");
+        }
+        LatchTimes x = given(t.toString());
+        due(34, "breaks() of a long row", x.breaks(), 0);
+        due(27, "ratio of a long row", x.ratio(false), 0);
+        for (int i = 0; i < 8; i++) {
+            t.append("path ").append((char) ('a' + i)).append(' ').append((char) ('c' + i)).append(" 9 9;");
+        }
+        for (int i = 0; i < 7; i++) {
+            t.append("path ").append((char) ('b' + i)).append(' ').append((char) ('a' + i)).append(" 9 9;");
+        }
+        x = given(t.toString());
+        int[] counts = {4, 10, 24, 400, 0, 0, 0, 0, 10};
+        for (int i = 0; i < counts.length; i++) {
+            due(46, "count(" + i + ")", x.count(i), counts[i]);
+        }
+        due(21, "good()", x.good(), 2);
+        due(34, "breaks()", x.breaks(), 1 | 4 | 16 | 64);
+        due(37, "flops()", x.flops(), 1023);
+        due(39, "nearest(24)", x.nearest(24), -2);
+        due(40, "event(7, 0)", x.event(7, 0), 36 * 400);
+        due(41, "open(0)", x.open(0), 1);
+        due(28, "loop(0)", x.loop(0), 0);
+        due(25, "wave(9, 200)", x.wave(9, 200), 0);
+        for (int p = 0; p < 24; p++) {
+            due(38, "near(" + p + ")", x.near(p), 9 * 400 - 64);
+            due(39, "nearest(" + p + ")", x.nearest(p), p);
+            due(30, "slower(" + p + ")", x.slower(p) > 9, true);
+            due(33, "gain(" + p + ")", x.gain(p), 0);
+        }
+        for (int c = 0; c < 10; c++) {
+            due(35, "bestMove(" + c + ")", Math.abs(x.bestMove(c)) <= 9, true);
+            due(11, "move(" + c + ", 0)", x.move(c, 0), true);
+        }
+        due(32, "bestTwo(0, 3)", x.bestTwo(0, 3) >= 0, true);
+        due(42, "chance(5, 40, 1)", x.chance(5, 40, 1), 0);
+        due(42, "chance(5, 40, 2)", x.chance(5, 40, 2), x.leastPeriod());
+    }
+
     public static void main(String[] args) {
         newObject();
         tape();
@@ -737,6 +855,9 @@ public final class PromisesTest {
         undone();
         images();
         counts();
+        answersAnew();
+        brims();
+        full();
         System.out.println(wrong == 0 ? asked + " answers are as due" : wrong + " answers are not as due");
         if (wrong != 0) {
             System.exit(1);
