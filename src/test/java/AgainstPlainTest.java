@@ -97,6 +97,28 @@ public final class AgainstPlainTest {
         return t;
     }
 
+    /** As many PHASES, CELLS and paths as there can be. */
+    private String fullText() {
+        StringBuilder t = new StringBuilder("period " + any(10, 99) + ";");
+        for (int i = 0; i < 4; i++) {
+            t.append("phase ").append((char) ('p' + i)).append(" " + any(0, 63) + " " + any(1, 63) + ";");
+        }
+        for (int i = 0; i < 10; i++) {
+            t.append(random.nextInt(5) == 0 ? "flop " : "latch ").append((char) ('a' + i)).append(' ');
+            t.append((char) ('p' + any(0, 3))).append(" " + any(0, 9) + " " + any(0, 9) + " " + any(0, 9) + ";");
+        }
+        List<String> pairs = new ArrayList<>();
+        while (pairs.size() < 24) {
+            String pair = (char) ('a' + any(0, 9)) + " " + (char) ('a' + any(0, 9));
+            if (!pairs.contains(pair)) {
+                pairs.add(pair);
+                int most = any(0, 40);
+                t.append("path " + pair + " " + most + " " + any(0, most) + ";");
+            }
+        }
+        return t.toString();
+    }
+
     private static void add(List<String> tokens, String line) {
         tokens.addAll(List.of(line.split(" ")));
     }
@@ -318,7 +340,11 @@ public final class AgainstPlainTest {
     }
 
     private void run(int steps) {
-        giveText(joined(tokensOfText()));
+        run(steps, joined(tokensOfText()));
+    }
+
+    private void run(int steps, String text) {
+        giveText(text);
         for (int i = 0; i < 8; i++) {
             int kind = any(-1, 2);
             int letters = any(1, 16) << 25 | (random.nextInt(6) == 0 ? 1 : 0);
@@ -331,6 +357,15 @@ public final class AgainstPlainTest {
                 change();
             }
         }
+    }
+
+    private void full(int steps) {
+        run(steps, fullText());
+        due("count(2)", x.count(2), 24);
+        for (int c = 0; c < 10; c++) {
+            due("move " + c + ",0", x.move(c, 0), y.move(c, 0));
+        }
+        due("bestMove9", x.bestMove(9), y.bestMove(9));
     }
 
     private void changesOnly(int steps) {
@@ -365,6 +400,7 @@ public final class AgainstPlainTest {
         }
         for (int i = from; i < from + 8 * times; i++) {
             new AgainstPlainTest(5000000 + i, false).hard().run(1);
+            new AgainstPlainTest(6000000 + i, false).full(1);
         }
         for (int i = from; i < from + 8 * times; i++) {
             new AgainstPlainTest(3000000 + i, true).run(2);

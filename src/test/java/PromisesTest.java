@@ -1,17 +1,7 @@
 import java.util.NoSuchElementException;
 
 /** The promises one by one, with answers worked out by hand from the document. */
-public final class PromisesTest {
-    private static final long NO = Long.MIN_VALUE;
-    private static int wrong = 0;
-    private static int asked = 0;
-
-    /**
-     * LEAVES: a 256 (by f), b 320 (by a); the loop of a and b adds nothing at 20, so 20 is RATIO.
-     */
-    private static final String RING = "period 20;phase p 0 32;phase q 32 32;flop f p 2 1 1;latch a q 1 1 1;"
-            + "latch b p 1 2 0;path f a 12 4;path a b 9 3;path b a 8 8;path b f 5 1;skew 1;seed 42;";
-
+public final class PromisesTest extends Bench {
     /** Three flops in a row, of one phase, with nothing but delays. */
     private static final String ROW = "phase c 0 1;flop f c 0 0 0;flop g c 0 0 0;flop h c 0 0 0;path f g 20 8;"
             + "path g h 10 6;";
@@ -19,38 +9,6 @@ public final class PromisesTest {
     /** A path of one 64th of the period, which no period of 9999 is enough for. */
     private static final String HOPELESS = "phase p 0 9;phase q 1 9;phase r 5 9;flop a p 0 0 0;flop b q 0 0 0;"
             + "path a b 999 999;";
-
-    private static void due(int promise, String call, long got, long want) {
-        asked++;
-        if (got != want) {
-            wrong++;
-            System.out.println("promise " + promise + ": " + call + " answered " + got + ", due is " + want);
-        }
-    }
-
-    private static void due(int promise, String call, boolean got, boolean want) {
-        due(promise, call, got ? 1 : 0, want ? 1 : 0);
-    }
-
-    private static void feed(LatchTimes x, String text) {
-        byte[] bytes = new byte[(text.length() + 19) / 20 * 20];
-        for (int i = 0; i < text.length(); i++) {
-            bytes[i] = (byte) text.charAt(i);
-        }
-        java.nio.ByteBuffer b = java.nio.ByteBuffer.wrap(bytes);
-        while (b.hasRemaining()) {
-            x.feed(b.getInt(), b.getInt(), b.getInt(), b.getInt(), b.getInt());
-        }
-    }
-
-    private static LatchTimes given(String text) {
-        LatchTimes x = new LatchTimes();
-        feed(x, text);
-        if (x.text(text.length()) < 0) {
-            throw new IllegalStateException(text + ": fault " + x.fault(0) + " at " + x.fault(1));
-        }
-        return x;
-    }
 
     private static void dueFault(String text, int code, int place) {
         LatchTimes x = given("period 7;");
@@ -67,14 +25,6 @@ public final class PromisesTest {
         due(3, "text of \"" + text + "\"", x.text(text.length()), lines);
         due(4, "no FAULT", x.fault(0), 0);
         due(4, "no place", x.fault(1), -1);
-    }
-
-    private static int letters(String word) {
-        int code = 0;
-        for (int i = 0; i < 6; i++) {
-            code = code * 32 + (i < word.length() ? word.charAt(i) - 'a' + 1 : 0);
-        }
-        return code;
     }
 
     private static void newObject() {
@@ -329,12 +279,6 @@ public final class PromisesTest {
         due(14, "opens(0, -1)", x.opens(0, -1), -1);
         due(14, "opens(2, 0)", x.opens(2, 0), -1);
         due(14, "opens(-1, 0)", x.opens(-1, 0), -1);
-    }
-
-    private static void dueRow(int promise, String name, long[] got, long... want) {
-        for (int i = 0; i < want.length; i++) {
-            due(promise, name + "(" + i + ")", got[i], want[i]);
-        }
     }
 
     private static void latest() {
@@ -858,9 +802,6 @@ public final class PromisesTest {
         answersAnew();
         brims();
         full();
-        System.out.println(wrong == 0 ? asked + " answers are as due" : wrong + " answers are not as due");
-        if (wrong != 0) {
-            System.exit(1);
-        }
+        endOfTest();
     }
 }
