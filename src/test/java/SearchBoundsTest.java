@@ -323,6 +323,15 @@ public final class SearchBoundsTest extends Bench {
         due(where, "one unit more", y.leastWidth(0), -2);
         y.delay(0, 64, 0);
         due(where, "it borrows nothing", y.leastWidth(0), 1);
+        // at a PERIOD of 1 b leaves at 64, less SHIFT: as many 64ths is its WIDTH
+        for (int shift : new int[] {1, 2, 24, 62, 63}) {
+            LatchTimes one = given("period 1;phase p 0 1;phase q " + shift + " 1;flop a p 0 0 0;latch b q 0 0 0;path a b 1 0;");
+            due(where, "at a PERIOD of 1, SHIFT " + shift, one.leastWidth(1), 64 - shift);
+            one.phase(1, 0, 1);
+            due(where, "at a PERIOD of 1, SHIFT 64", one.leastWidth(1), 1);
+            one.delay(0, 2, 0);
+            due(where, "at a PERIOD of 1, 64 would be needed", one.leastWidth(1), -2);
+        }
         LatchTimes z = given("period 9;phase p 0 63;latch a p 0 0 0;path a a 10 0;");
         due(where, "FOREVER", z.leastWidth(0), -2);
         LatchTimes w = given("period 9;phase p 0 63;flop a p 0 0 0;path a a 10 0;");
