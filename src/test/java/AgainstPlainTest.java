@@ -14,6 +14,7 @@ public final class AgainstPlainTest {
     private final List<String> told = new ArrayList<>();
     private final boolean slow;
     private boolean hard = false;
+    private boolean wide = false;
 
     private AgainstPlainTest(long seed, boolean slow) {
         // seeds that lie side by side would begin alike
@@ -24,6 +25,12 @@ public final class AgainstPlainTest {
     /** Long delays by short shifts, so that the least period is near 9999, or there is none. */
     private AgainstPlainTest hard() {
         hard = true;
+        return this;
+    }
+
+    /** SETUP, HOLD, THROUGH and SKEW of all that they can be. */
+    private AgainstPlainTest wide() {
+        wide = true;
         return this;
     }
 
@@ -66,7 +73,7 @@ public final class AgainstPlainTest {
         int phases = random.nextInt(8) == 0 ? 1 : any(2, 4);
         int cells = any(1, slow ? 6 : 10);
         int flopShare = any(0, 4);
-        int detail = random.nextInt(3) == 0 ? 0 : any(1, 9);
+        int detail = wide ? 99 : random.nextInt(3) == 0 ? 0 : any(1, 9);
         add(t, "period " + any(1, 3 * scale) + " ;");
         for (int i = 0; i < phases; i++) {
             int opens = hard ? any(0, 12) : any(0, 3) * any(0, 21);
@@ -78,7 +85,7 @@ public final class AgainstPlainTest {
                     + any(0, detail) + " " + any(0, detail) + " ;");
         }
         if (random.nextBoolean()) {
-            add(t, "skew " + any(0, 3) + " ;");
+            add(t, "skew " + any(0, wide ? 99 : 3) + " ;");
         }
         if (random.nextBoolean()) {
             add(t, "seed " + any(0, 99999) + " ;");
@@ -401,6 +408,7 @@ public final class AgainstPlainTest {
         for (int i = from; i < from + 8 * times; i++) {
             new AgainstPlainTest(5000000 + i, false).hard().run(1);
             new AgainstPlainTest(6000000 + i, false).full(1);
+            new AgainstPlainTest(7000000 + i, false).wide().run(1);
         }
         for (int i = from; i < from + 8 * times; i++) {
             new AgainstPlainTest(3000000 + i, true).run(2);

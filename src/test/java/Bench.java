@@ -1,3 +1,6 @@
+import java.util.HashSet;
+import java.util.Set;
+
 /** What the tests share: texts onto the tape, nets that many of them use, answers compared with those that are due. */
 abstract class Bench {
     static final long NO = Long.MIN_VALUE;
@@ -8,16 +11,22 @@ abstract class Bench {
     static final String RING = "period 20;phase p 0 32;phase q 32 32;flop f p 2 1 1;latch a q 1 1 1;"
             + "latch b p 1 2 0;path f a 12 4;path a b 9 3;path b a 8 8;path b f 5 1;skew 1;seed 42;";
 
+    private static final Set<Object> CHECKED = new HashSet<>();
     private static int wrong = 0;
     private static int asked = 0;
 
     /** Where: the promise's number, or words of the document. */
     static void due(Object where, String call, long got, long want) {
         asked++;
+        CHECKED.add(where);
         if (got != want) {
             wrong++;
             System.out.println(where + ": " + call + " answered " + got + ", due is " + want);
         }
+    }
+
+    static boolean isChecked(Object where) {
+        return CHECKED.contains(where);
     }
 
     static void due(Object where, String call, boolean got, boolean want) {

@@ -802,6 +802,9 @@ public final class PromisesTest extends Bench {
         answersAnew();
         brims();
         full();
+        for (int promise = 1; promise <= 46; promise++) {
+            due("The promises", "a check of promise " + promise, isChecked(promise), true);
+        }
         endOfTest();
     }
 }
